@@ -56,6 +56,41 @@ public final class PromisesTest {
         sameAsFilled(where + " after run", x, 0, -1);
     }
 
+    private static int append(String call, LoopPipeliner x, int r, int k) {
+        return switch (call) {
+            case "load" -> x.load(r, k);
+            case "store" -> x.store(r, k);
+            default -> x.constant(r, k);
+        };
+    }
+
+    private static void refusedAs(int code, String at, String call, int r, int k) {
+        LoopPipeliner x = full();
+        String what = at + " full " + call + "(" + r + ", " + k + ")";
+        due(what, append(call, x, r, k), code);
+        stillFull(what, x);
+    }
+
+    private static void badAlways(String at, String call, int r, int k) {
+        refusedAs(BAD_ARG, at, call, r, k);
+        LoopPipeliner x = filled();
+        String what = at + " " + call + "(" + r + ", " + k + ")";
+        due(what, append(call, x, r, k), BAD_ARG);
+        due(what + " size()", x.size(), 0);
+        sameAsFilled(what, x, -1, -1);
+    }
+
+    private static void refusedAsLoad(String at, String call) {
+        for (int bad : NO_REGISTER) {
+            badAlways(at, call, bad, 0);
+        }
+        for (int bad : OUT_OF_REACH) {
+            badAlways(at, call, 5, bad);
+        }
+        refusedAs(FULL, at, call, 5, 8);
+        refusedAs(FULL, at, call, 0, -8);
+    }
+
     private static void promise1NewObject() {
         LoopPipeliner x = new LoopPipeliner();
         for (int r = 0; r < 6; r++) {
@@ -90,21 +125,7 @@ public final class PromisesTest {
                 sameAsFilled(at, x, d, -1);
             }
         }
-        for (int bad : NO_REGISTER) {
-            LoopPipeliner x = full();
-            due("p2 full load(" + bad + ", 0)", x.load(bad, 0), BAD_ARG);
-            stillFull("p2 bad d", x);
-            due("p2 load(" + bad + ", 0)", new LoopPipeliner().load(bad, 0), BAD_ARG);
-        }
-        for (int bad : OUT_OF_REACH) {
-            LoopPipeliner x = full();
-            due("p2 full load(0, " + bad + ")", x.load(0, bad), BAD_ARG);
-            stillFull("p2 bad k", x);
-            due("p2 load(5, " + bad + ")", new LoopPipeliner().load(5, bad), BAD_ARG);
-        }
-        LoopPipeliner x = full();
-        due("p2 full load(5, 8)", x.load(5, 8), FULL);
-        stillFull("p2 full", x);
+        refusedAsLoad("p2", "load");
     }
 
     private static void promise3Store() {
@@ -124,21 +145,7 @@ public final class PromisesTest {
                 }
             }
         }
-        for (int bad : NO_REGISTER) {
-            LoopPipeliner x = full();
-            due("p3 full store(" + bad + ", 0)", x.store(bad, 0), BAD_ARG);
-            stillFull("p3 bad a", x);
-            due("p3 store(" + bad + ", 0)", new LoopPipeliner().store(bad, 0), BAD_ARG);
-        }
-        for (int bad : OUT_OF_REACH) {
-            LoopPipeliner x = full();
-            due("p3 full store(0, " + bad + ")", x.store(0, bad), BAD_ARG);
-            stillFull("p3 bad k", x);
-            due("p3 store(5, " + bad + ")", new LoopPipeliner().store(5, bad), BAD_ARG);
-        }
-        LoopPipeliner x = full();
-        due("p3 full store(5, -8)", x.store(5, -8), FULL);
-        stillFull("p3 full", x);
+        refusedAsLoad("p3", "store");
     }
 
     private static int applied(int op, int d, int a, int b) {
@@ -228,21 +235,7 @@ public final class PromisesTest {
                 sameAsFilled(at, x, d, -1);
             }
         }
-        for (int bad : NO_REGISTER) {
-            LoopPipeliner x = full();
-            due("p5 full constant(" + bad + ", 0)", x.constant(bad, 0), BAD_ARG);
-            stillFull("p5 bad d", x);
-            due("p5 constant(" + bad + ", 0)", new LoopPipeliner().constant(bad, 0), BAD_ARG);
-        }
-        for (int bad : OUT_OF_REACH) {
-            LoopPipeliner x = full();
-            due("p5 full constant(0, " + bad + ")", x.constant(0, bad), BAD_ARG);
-            stillFull("p5 bad k", x);
-            due("p5 constant(5, " + bad + ")", new LoopPipeliner().constant(5, bad), BAD_ARG);
-        }
-        LoopPipeliner x = full();
-        due("p5 full constant(5, 8)", x.constant(5, 8), FULL);
-        stillFull("p5 full", x);
+        refusedAsLoad("p5", "constant");
     }
 
     private static void promise6Unappend() {

@@ -136,6 +136,10 @@ public final class AnyCallBoundariesTest {
         lastCall("run(12)", 108, x -> x.run(12));
         lastCall("digest()", Samples.filled().digest(), LoopPipeliner::digest);
         lastCall("mode(3)", 0, x -> x.mode(3));
+        lastCall("clear()", 0, x -> {
+            x.clear();
+            return 0;
+        });
     }
 
     private static void manyCalls() {

@@ -43,6 +43,43 @@ public final class BodyBoundariesTest {
         checks.sentence(promise + ", BAD_ARG is tested before FULL", () -> badBeforeFull(call));
         checks.sentence(promise + ", otherwise its number", () -> itsNumber(call));
         checks.sentence(promise + ", refused it changes nothing", () -> refusedAppend(call));
+        checks.sentence(promise + ", appended it changes nothing else", () -> {
+            nothingElseChanged(x -> call.on(x, 0, -8));
+            nothingElseChanged(x -> call.on(x, 5, 8));
+        });
+    }
+
+    private static void nothingElseChanged(Samples.Call append) {
+        for (int size = 0; size < 10; size++) {
+            LoopPipeliner x = Samples.withBody(size);
+            append.on(x);
+            due("size() after " + size, x.size(), size + 1);
+            Samples.sameNumbers(checks, "after " + size, x, Samples.filled());
+            x.unappend();
+            Samples.alike(checks, "after " + size + ", taken off again,", x, Samples.withBody(size));
+        }
+    }
+
+    // Every other instruction comes before it, so what it leaves behind is what stands at the end.
+    private static void appendedLast() {
+        for (int size = 0; size < 10; size++) {
+            LoopPipeliner x = Samples.withBody(size);
+            x.load(2, 8);
+            x.run(1);
+            due("load after " + size, x.get(2), x.cell(8));
+            x = Samples.withBody(size);
+            x.store(3, 8);
+            x.run(1);
+            due("store after " + size, x.cell(8), x.get(3));
+            x = Samples.withBody(size);
+            x.apply(3, 4, 1, 3);
+            x.run(1);
+            due("apply after " + size, x.get(4), x.get(1) - x.get(3));
+            x = Samples.withBody(size);
+            x.constant(4, -3);
+            x.run(1);
+            due("constant after " + size, x.get(4), -3);
+        }
     }
 
     private static void badRegister(Append call) {
@@ -93,13 +130,13 @@ public final class BodyBoundariesTest {
 
     private static void refusedAppend(Append call) {
         for (int bad : NO_REGISTER) {
-            Samples.refused(checks, "r = " + bad, BAD_ARG, x -> call.on(x, bad, 1), 0, 1, 9, 10);
+            Samples.changesNothing(checks, "r = " + bad, BAD_ARG, x -> call.on(x, bad, 1), 0, 1, 9, 10);
         }
         for (int bad : OUT_OF_REACH) {
-            Samples.refused(checks, "k = " + bad, BAD_ARG, x -> call.on(x, 1, bad), 0, 1, 9, 10);
+            Samples.changesNothing(checks, "k = " + bad, BAD_ARG, x -> call.on(x, 1, bad), 0, 1, 9, 10);
         }
-        Samples.refused(checks, "full (0, -8)", FULL, x -> call.on(x, 0, -8), 10);
-        Samples.refused(checks, "full (5, 8)", FULL, x -> call.on(x, 5, 8), 10);
+        Samples.changesNothing(checks, "full (0, -8)", FULL, x -> call.on(x, 0, -8), 10);
+        Samples.changesNothing(checks, "full (5, 8)", FULL, x -> call.on(x, 5, 8), 10);
     }
 
     private static void applying() {
@@ -123,6 +160,12 @@ public final class BodyBoundariesTest {
         checks.sentence("4 apply, BAD_ARG is tested before FULL", BodyBoundariesTest::applyBadBeforeFull);
         checks.sentence("4 apply, otherwise its number", BodyBoundariesTest::applyItsNumber);
         checks.sentence("4 apply, refused it changes nothing", BodyBoundariesTest::refusedApply);
+        checks.sentence("4 apply, appended it changes nothing else", () -> {
+            for (int op : Samples.APPLIED) {
+                nothingElseChanged(x -> x.apply(op, 0, 5, 0));
+                nothingElseChanged(x -> x.apply(op, 5, 0, 5));
+            }
+        });
     }
 
     private static void badOp(Supplier<LoopPipeliner> start, int good) {
@@ -170,15 +213,15 @@ public final class BodyBoundariesTest {
 
     private static void refusedApply() {
         for (int bad : NOT_APPLIED) {
-            Samples.refused(checks, "op = " + bad, BAD_ARG, x -> x.apply(bad, 1, 2, 3), 0, 1, 9, 10);
+            Samples.changesNothing(checks, "op = " + bad, BAD_ARG, x -> x.apply(bad, 1, 2, 3), 0, 1, 9, 10);
         }
         for (int bad : NO_REGISTER) {
-            Samples.refused(checks, "d = " + bad, BAD_ARG, x -> x.apply(2, bad, 2, 3), 0, 1, 9, 10);
-            Samples.refused(checks, "a = " + bad, BAD_ARG, x -> x.apply(2, 1, bad, 3), 0, 1, 9, 10);
-            Samples.refused(checks, "b = " + bad, BAD_ARG, x -> x.apply(2, 1, 2, bad), 0, 1, 9, 10);
+            Samples.changesNothing(checks, "d = " + bad, BAD_ARG, x -> x.apply(2, bad, 2, 3), 0, 1, 9, 10);
+            Samples.changesNothing(checks, "a = " + bad, BAD_ARG, x -> x.apply(2, 1, bad, 3), 0, 1, 9, 10);
+            Samples.changesNothing(checks, "b = " + bad, BAD_ARG, x -> x.apply(2, 1, 2, bad), 0, 1, 9, 10);
         }
         for (int op : Samples.APPLIED) {
-            Samples.refused(checks, "full, op " + op, FULL, x -> x.apply(op, 5, 0, 5), 10);
+            Samples.changesNothing(checks, "full, op " + op, FULL, x -> x.apply(op, 5, 0, 5), 10);
         }
     }
 
@@ -207,7 +250,7 @@ public final class BodyBoundariesTest {
             }
         });
         checks.sentence("6 unappend, refused it changes nothing",
-            () -> Samples.refused(checks, "unappend()", BAD_ARG, LoopPipeliner::unappend, 0));
+            () -> Samples.changesNothing(checks, "unappend()", BAD_ARG, LoopPipeliner::unappend, 0));
     }
 
     private static void removesTheLast() {
@@ -264,6 +307,11 @@ public final class BodyBoundariesTest {
                 due("of " + size, Samples.withBody(size).size(), size);
             }
         });
+        checks.sentence("8 size, it changes nothing", () -> {
+            for (int size = 0; size <= 10; size++) {
+                Samples.changesNothing(checks, "size()", size, LoopPipeliner::size, size);
+            }
+        });
         checks.sentence("8 size, refused ones do not count", () -> {
             LoopPipeliner x = empty();
             x.load(6, 0);
@@ -305,6 +353,7 @@ public final class BodyBoundariesTest {
         appending("3 store", "a", LoopPipeliner::store);
         applying();
         appending("5 constant", "d", LoopPipeliner::constant);
+        checks.sentence("2 to 5, appends: it comes after all that stand", BodyBoundariesTest::appendedLast);
         atMostTen();
         unappending();
         clearing();

@@ -5,7 +5,10 @@ import java.util.ArrayDeque;
 import java.util.ArrayList;
 import java.util.Deque;
 import java.util.List;
+import java.util.Map;
 import java.util.Set;
+import java.util.TreeMap;
+import java.util.TreeSet;
 import java.util.regex.Matcher;
 import java.util.regex.Pattern;
 
@@ -20,7 +23,11 @@ public final class LanguageTest {
     private static final Pattern TOKEN = Pattern.compile("[A-Za-z_$][A-Za-z_$0-9]*|[0-9]+|->|::|\\S");
     private static final Pattern ARRAY_FIELD =
         Pattern.compile(" {4}private final (int|boolean)\\[\\] \\w+ = new \\1\\[[A-Z_]+\\];");
+    private static final Pattern CONSTANT =
+        Pattern.compile(" {4}(public|private) static final (int|long) [A-Z_]+ = -?[0-9]+;");
+    private static final Pattern METHOD = Pattern.compile(" {4}(?:public|private) .*?(\\w+)\\(.*\\{");
     private static final int MOST_LINES = 60;
+    private static final int MOST_DEEP = 6;
 
     private static final Checks checks = new Checks();
 
@@ -76,6 +83,57 @@ public final class LanguageTest {
         }
     }
 
+    private static void constantsAreLiterals(List<String> lines) {
+        for (String line : lines) {
+            if (tokens(line).contains("static") && !METHOD.matcher(line).matches()) {
+                checks.holds("a static field is a constant: " + line, CONSTANT.matcher(line).matches());
+            }
+        }
+    }
+
+    /** For each method, those of the class that it calls. */
+    private static Map<String, Set<String>> calls(List<String> lines) {
+        Map<String, Set<String>> calls = new TreeMap<>();
+        String method = "";
+        for (String line : lines) {
+            Matcher head = METHOD.matcher(line);
+            if (head.matches()) {
+                method = head.group(1);
+                calls.put(method, new TreeSet<>());
+            } else if (!method.isEmpty()) {
+                calls.get(method).addAll(calledIn(tokens(line)));
+            }
+        }
+        return calls;
+    }
+
+    private static Set<String> calledIn(List<String> tokens) {
+        Set<String> called = new TreeSet<>();
+        for (int i = 1; i < tokens.size(); i++) {
+            String before = tokens.get(i - 1);
+            if (tokens.get(i).equals("(") && isWord(before) && !CALL_LIKE.contains(before)) {
+                called.add(before);
+            }
+        }
+        return called;
+    }
+
+    // Methods that call each other would never be without a call: the levels end only if there is no recursion.
+    private static void callsAreNotDeep(List<String> lines) {
+        Map<String, Set<String>> calls = calls(lines);
+        checks.holds("the methods are found", calls.containsKey("run") && calls.get("run").contains("performSteps"));
+        Set<String> level = calls.keySet();
+        for (int depth = 1; depth <= MOST_DEEP; depth++) {
+            Set<String> below = new TreeSet<>();
+            for (String method : level) {
+                checks.holds(method + " is of the class", calls.containsKey(method));
+                below.addAll(calls.getOrDefault(method, Set.of()));
+            }
+            level = below;
+        }
+        checks.holds("no recursion, and at most six calls deep; deeper are " + level, level.isEmpty());
+    }
+
     private static void methodsAreShort(List<String> lines) {
         int start = 0;
         for (int i = 0; i < lines.size(); i++) {
@@ -94,7 +152,9 @@ public final class LanguageTest {
         List<String> tokens = tokens(text);
         words(tokens);
         arraysAreFields(lines);
+        constantsAreLiterals(lines);
         noCallInACall(tokens);
+        callsAreNotDeep(lines);
         methodsAreShort(lines);
         checks.end("LanguageTest");
     }

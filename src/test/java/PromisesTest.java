@@ -75,16 +75,24 @@ public final class PromisesTest {
         for (int d = 0; d < 6; d++) {
             for (int a = 0; a < 6; a++) {
                 for (int b = 0; b < 6; b++) {
-                    LoopPipeliner x = Samples.filled();
-                    String call = "apply(3, " + d + ", " + a + ", " + b + ")";
-                    due(call, x.apply(3, d, a, b), 0);
-                    sameAsFilled(call + " before the run", x, -1, -1);
-                    x.run(1);
-                    due(call + " get(" + d + ")", x.get(d), a - b);
-                    sameAsFilled(call, x, d, -1);
+                    appliedTo(2, d, a, b, 100 + a + 100 + b);
+                    appliedTo(3, d, a, b, a - b);
+                    appliedTo(4, d, a, b, (100 + a) * (100 + b));
+                    appliedTo(5, d, a, b, a < b ? 1 : 0);
+                    appliedTo(7, d, a, b, 100 + a);
                 }
             }
         }
+    }
+
+    private static void appliedTo(int op, int d, int a, int b, int want) {
+        LoopPipeliner x = Samples.filled();
+        String call = "apply(" + op + ", " + d + ", " + a + ", " + b + ")";
+        due(call, x.apply(op, d, a, b), 0);
+        sameAsFilled(call + " before the run", x, -1, -1);
+        due(call + " run(1)", x.run(1), 1);
+        due(call + " get(" + d + ")", x.get(d), want);
+        sameAsFilled(call, x, d, -1);
     }
 
     private static void constant() {

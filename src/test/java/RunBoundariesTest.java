@@ -9,6 +9,24 @@ public final class RunBoundariesTest {
     private static final int LESS = 5;
     private static final int PICK = 7;
 
+    /** Every call but mode, accepted and refused, one after the other on one object. */
+    private static final Samples.Call[] ANY_CALLS = {
+        LoopPipeliner::size, LoopPipeliner::unappend, x -> x.run(12), x -> x.run(13),
+        x -> x.load(0, 1), x -> x.load(6, 1), x -> x.store(1, 2), x -> x.store(1, 9),
+        x -> x.apply(ADD, 1, 1, 0), x -> x.apply(6, 1, 1, 0), x -> x.constant(2, 8), x -> x.constant(2, -9),
+        LoopPipeliner::size, x -> x.run(12), LoopPipeliner::digest, LoopPipeliner::unappend,
+        x -> x.set(3, 7), x -> x.set(6, 7), x -> x.get(3), x -> x.get(6),
+        x -> x.put(15, 7), x -> x.put(16, 7), x -> x.cell(15), x -> x.cell(16),
+        x -> x.ramp(3, 5), x -> x.run(7), LoopPipeliner::digest,
+        x -> {
+            x.clear();
+            return x.size();
+        },
+        x -> x.store(0, 0), x -> x.load(0, -1), x -> x.store(0, 1), x -> x.apply(MUL, 4, 4, 0), x -> x.apply(PICK, 5, 4, 0),
+        x -> x.store(5, 8), x -> x.load(5, -8), x -> x.load(4, 2), x -> x.store(4, -2), x -> x.constant(0, 3),
+        x -> x.constant(0, 3), x -> x.load(0, 0), x -> x.store(0, 0), x -> x.apply(SUB, 0, 0, 0), x -> x.run(12),
+    };
+
     private static final Checks checks = new Checks();
 
     /** A test that is to hold in each of the four modes. */
@@ -280,7 +298,7 @@ public final class RunBoundariesTest {
         });
         checks.sentence("14 run, refused it changes nothing", () -> {
             for (int n : new int[] {MIN, -1, 13, 16, MAX}) {
-                Samples.refused(checks, "run(" + n + ")", BAD_ARG, x -> x.run(n), 0, 1, 10);
+                Samples.changesNothing(checks, "run(" + n + ")", BAD_ARG, x -> x.run(n), 0, 1, 10);
             }
         });
         sentence("14 run, otherwise n times the number of instructions", (at, mode) -> {
@@ -324,9 +342,24 @@ public final class RunBoundariesTest {
         });
         checks.sentence("16 mode, refused it changes nothing", () -> {
             for (int n : new int[] {MIN, -1, 4, MAX}) {
-                Samples.refused(checks, "mode(" + n + ")", BAD_ARG, x -> x.mode(n), 0, 1, 10);
-                Samples.refused(checks, "mode(" + n + ") in mode 3", BAD_ARG, x -> x.mode(3) + x.mode(n), 0, 1, 10);
+                Samples.changesNothing(checks, "mode(" + n + ")", BAD_ARG, x -> x.mode(n), 0, 1, 10);
+                Samples.changesNothing(checks, "mode(" + n + ") in mode 3", BAD_ARG, x -> x.mode(3) + x.mode(n), 0, 1, 10);
             }
+        });
+        sentence("16 mode, it answers the same whatever the order was", (at, mode) -> {
+            for (int n : Samples.INTS) {
+                LoopPipeliner x = filledIn(mode);
+                due(at + "mode(" + n + ")", x.mode(n), 0 <= n && n <= 3 ? 0 : BAD_ARG);
+            }
+        });
+        sentence("Terms, the order can't be seen in the answer of any other call", (at, mode) -> {
+            LoopPipeliner x = filledIn(mode);
+            LoopPipeliner y = Samples.filled();
+            for (int call = 0; call < ANY_CALLS.length; call++) {
+                due(at + "call " + call, ANY_CALLS[call].on(x), ANY_CALLS[call].on(y));
+                due(at + "digest() after call " + call, x.digest(), y.digest());
+            }
+            Samples.alike(checks, at + "after all calls", x, y);
         });
         sentence("Terms, the order can't be seen by any other call", (at, mode) -> {
             for (int size = 0; size <= 10; size++) {

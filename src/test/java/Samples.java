@@ -95,12 +95,12 @@ final class Samples {
         }
     }
 
-    /** The call answers its code and changes nothing, whether the body has so many or so many instructions. */
-    static void refused(Checks checks, String call, int code, Call refused, int... sizes) {
+    /** The call answers this and changes nothing, whether the body has so many or so many instructions. */
+    static void changesNothing(Checks checks, String words, int answer, Call call, int... sizes) {
         for (int size : sizes) {
             LoopPipeliner x = withBody(size);
-            String at = call + " with " + size + " instructions";
-            checks.due(at, refused.on(x), code);
+            String at = words + " with " + size + " instructions";
+            checks.due(at, call.on(x), answer);
             alike(checks, "after " + at, x, withBody(size));
         }
     }

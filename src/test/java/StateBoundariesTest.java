@@ -57,7 +57,7 @@ public final class StateBoundariesTest {
         });
         checks.sentence("9 set, refused it changes nothing", () -> {
             for (int r : new int[] {MIN, -1, 6, MAX}) {
-                Samples.refused(checks, "set(" + r + ", 7)", BAD_ARG, x -> x.set(r, 7), 0, 1, 10);
+                Samples.changesNothing(checks, "set(" + r + ", 7)", BAD_ARG, x -> x.set(r, 7), 0, 1, 10);
             }
         });
         checks.sentence("10 get, register r; 0 if r is not 0 to 5", () -> {
@@ -66,9 +66,17 @@ public final class StateBoundariesTest {
                 due("get(" + r + ")", Samples.filled().get(r), register ? 100 + r : 0);
             }
         });
-        checks.sentence("10 get, of no register it changes nothing", () -> {
-            for (int r : new int[] {MIN, -1, 6, MAX}) {
-                Samples.refused(checks, "get(" + r + ")", 0, x -> x.get(r), 0, 10);
+        checks.sentence("9 set, the cells and the body stay", () -> {
+            for (int r = 0; r < 6; r++) {
+                int register = r;
+                Samples.changesNothing(checks, "set(" + r + ", 7) and back", 0,
+                    x -> x.set(register, 7) + x.set(register, 100 + register), 0, 1, 10);
+            }
+        });
+        checks.sentence("10 get, it changes nothing", () -> {
+            for (int r : new int[] {MIN, -1, 0, 1, 2, 3, 4, 5, 6, MAX}) {
+                boolean register = 0 <= r && r <= 5;
+                Samples.changesNothing(checks, "get(" + r + ")", register ? 100 + r : 0, x -> x.get(r), 0, 10);
             }
         });
     }
@@ -99,7 +107,7 @@ public final class StateBoundariesTest {
         });
         checks.sentence("11 put, refused it changes nothing", () -> {
             for (int c : new int[] {MIN, -1, 16, MAX}) {
-                Samples.refused(checks, "put(" + c + ", 7)", BAD_ARG, x -> x.put(c, 7), 0, 1, 10);
+                Samples.changesNothing(checks, "put(" + c + ", 7)", BAD_ARG, x -> x.put(c, 7), 0, 1, 10);
             }
         });
         checks.sentence("12 cell, the cell c; 0 if c is not 0 to 15", () -> {
@@ -108,9 +116,21 @@ public final class StateBoundariesTest {
                 due("cell(" + c + ")", Samples.filled().cell(c), inList ? 200 + c : 0);
             }
         });
-        checks.sentence("12 cell, of no cell it changes nothing", () -> {
-            for (int c : new int[] {MIN, -1, 16, MAX}) {
-                Samples.refused(checks, "cell(" + c + ")", 0, x -> x.cell(c), 0, 10);
+        checks.sentence("11 put, the registers and the body stay", () -> {
+            for (int c = 0; c < 16; c++) {
+                int inList = c;
+                Samples.changesNothing(checks, "put(" + c + ", 7) and back", 0,
+                    x -> x.put(inList, 7) + x.put(inList, 200 + inList), 0, 1, 10);
+            }
+        });
+        checks.sentence("12 cell, it changes nothing", () -> {
+            for (int c = -1; c <= 16; c++) {
+                int looked = c;
+                boolean inList = 0 <= c && c <= 15;
+                Samples.changesNothing(checks, "cell(" + c + ")", inList ? 200 + c : 0, x -> x.cell(looked), 0, 10);
+            }
+            for (int c : new int[] {MIN, MAX}) {
+                Samples.changesNothing(checks, "cell(" + c + ")", 0, x -> x.cell(c), 0, 10);
             }
         });
     }

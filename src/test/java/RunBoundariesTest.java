@@ -267,11 +267,34 @@ public final class RunBoundariesTest {
             due(at + "cell 0", x.cell(0), 7);
             due(at + "cell 1", x.cell(1), 201);
         });
+        sentence("Terms, each run does all its instructions again, in every turn", (at, mode) -> {
+            for (int n = 1; n <= 12; n++) {
+                for (int m = 1; m <= 12; m++) {
+                    ranTwice(at + "run(" + n + ") and run(" + m + ")", filledIn(mode), n, m);
+                }
+            }
+        });
         sentence("Terms, all its instructions one after the other", (at, mode) -> {
             for (int size = 1; size <= 10; size++) {
                 chained(at + size + " in a chain", filledIn(mode), size);
             }
         });
+    }
+
+    /** Register 0 counts the turns by ones, register 2 those that ended, and cell i keeps the count of turn i. */
+    private static void ranTwice(String at, LoopPipeliner x, int n, int m) {
+        x.constant(1, 1);
+        x.apply(ADD, 0, 0, 1);
+        x.store(0, 0);
+        x.apply(ADD, 2, 2, 1);
+        x.run(n);
+        x.run(m);
+        due(at + ", get(0)", x.get(0), 100 + n + m);
+        due(at + ", get(2)", x.get(2), 102 + n + m);
+        for (int c = 0; c < 16; c++) {
+            int firstRun = c < n ? 100 + c + 1 : 200 + c;
+            due(at + ", cell " + c, x.cell(c), c < m ? 100 + n + c + 1 : firstRun);
+        }
     }
 
     /** Registers 0 and 1 are added into each other in turn: each sum needs the one before. */

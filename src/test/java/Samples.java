@@ -85,8 +85,11 @@ final class Samples {
 
     /** No call tells x from y: their numbers, and their bodies by what they do as they are taken apart. */
     static void alike(Checks checks, String where, LoopPipeliner x, LoopPipeliner y) {
+        // Taken before any look at the numbers: a look that changed both bodies would hide itself.
+        int size = y.size();
+        checks.due(where + " size()", x.size(), size);
         sameNumbers(checks, where, x, y);
-        for (int left = y.size(); left >= 0; left--) {
+        for (int left = size; left >= 0; left--) {
             String at = where + ", " + left + " left,";
             checks.due(at + " size()", x.size(), left);
             checks.due(at + " run(12)", x.run(12), y.run(12));
